@@ -643,6 +643,8 @@ public final class PromiseTests {
         due("and the put one", p.changed(2), 41);
         p.put(7, 5, 7);
         due("and not the last one", p.changed(2), 40);
+        p.put(0, 0, 5);
+        due("and the first one", p.changed(2), 41);
         due("changed of -1", p.changed(-1), -1);
         due("changed of 3", p.changed(3), -1);
         due("changed of 5", p.changed(5), -1);
